@@ -1,0 +1,90 @@
+/**
+ * Runs of calls written as text, a call a line with the answer that is due behind "=":
+ * a number, or throws.X for an exception X. A line that begins with # is a remark.
+ */
+final class Runs {
+    /** What the document says of an object's life; a run beyond it would test nothing that is promised. */
+    private static final int MOST_CALLS = 512;
+
+    private static int wrong = 0;
+
+    private Runs() {
+    }
+
+    static void check(String title, String text) {
+        ChannelHall hall = new ChannelHall();
+        int calls = 0;
+        for (String line : text.split("\n")) {
+            String row = line.strip();
+            if (row.isEmpty() || row.startsWith("#")) {
+                continue;
+            }
+            int equals = row.lastIndexOf('=');
+            String call = row.substring(0, equals).strip();
+            String due = row.substring(equals + 1).strip();
+            String got = answer(hall, call);
+            calls++;
+            if (!same(got, due)) {
+                fail(title + ": call " + calls + ", " + call + " answered " + got + ", due is " + due);
+            }
+        }
+        if (calls > MOST_CALLS) {
+            fail(title + ": " + calls + " calls are more than an object is used for");
+        }
+    }
+
+    static void fail(String what) {
+        wrong++;
+        System.out.println(what);
+    }
+
+    static void end() {
+        if (wrong != 0) {
+            System.out.println(wrong + " answers are not as due");
+            System.exit(1);
+        }
+    }
+
+    static boolean same(String got, String due) {
+        if (got.startsWith("throws.") || due.startsWith("throws.")) {
+            return got.equals(due);
+        }
+        return Double.parseDouble(got) == Double.parseDouble(due);
+    }
+
+    static String answer(ChannelHall hall, String call) {
+        int open = call.indexOf('(');
+        String inside = call.substring(open + 1, call.lastIndexOf(')')).strip();
+        String[] parts = inside.isEmpty() ? new String[0] : inside.split(",");
+        double[] args = new double[parts.length];
+        for (int i = 0; i < parts.length; i++) {
+            args[i] = Double.parseDouble(parts[i].strip());
+        }
+        return answer(hall, call.substring(0, open), args);
+    }
+
+    /** Every int is a double exactly, so one row of doubles carries the arguments of every call. */
+    static String answer(ChannelHall hall, String name, double[] a) {
+        try {
+            return switch (name) {
+                case "make" -> "" + hall.make((int) a[0], (int) a[1], (int) a[2]);
+                case "give" -> "" + hall.give((int) a[0], (int) a[1], (int) a[2], a[3], a[4]);
+                case "take" -> "" + hall.take((int) a[0], (int) a[1], a[2]);
+                case "swap" -> "" + hall.swap((int) a[0], (int) a[1], (int) a[2], a[3]);
+                case "arrive" -> "" + hall.arrive((int) a[0], (int) a[1], a[2]);
+                case "reset" -> "" + hall.reset((int) a[0]);
+                case "interrupt" -> "" + hall.interrupt((int) a[0]);
+                case "tick" -> "" + hall.tick(a[0]);
+                case "got" -> "" + hall.got((int) a[0]);
+                case "thread" -> "" + hall.thread((int) a[0], (int) a[1]);
+                case "channel" -> "" + hall.channel((int) a[0], (int) a[1]);
+                case "item" -> "" + hall.item((int) a[0], (int) a[1]);
+                case "stay" -> "" + hall.stay((int) a[0]);
+                case "time" -> "" + hall.time();
+                default -> throw new AssertionError("no such call: " + name);
+            };
+        } catch (RuntimeException e) {
+            return "throws." + e.getClass().getSimpleName();
+        }
+    }
+}
