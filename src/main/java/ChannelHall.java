@@ -327,8 +327,8 @@ public final class ChannelHall {
             }
         }
         for (Channel place : channels) {
-            if (place != null && place.awaitsDue(now) && place.items.get(0).key < least) {
-                least = place.items.get(0).key;
+            if (place != null) {
+                least = place.earlierDue(now, least);
             }
         }
         return least;
@@ -356,6 +356,7 @@ public final class ChannelHall {
 
     private enum Role { GIVER, TAKER, PARTNER }
 
+    /** An ITEM; its key is its DUE time or its RANK turned round, so that one rising order serves all kinds. */
     private static final class Item {
         final int value;
         final double key;
@@ -468,9 +469,13 @@ public final class ChannelHall {
             return kind == BARRIER ? !broken : isReady(now);
         }
 
-        boolean awaitsDue(double now) {
-            return kind == DELAYED && !items.isEmpty() && items.get(0).key > now
-                    && firstWaiter(Role.TAKER) != null;
+        /** The DUE time above now that takers wait for here, if there is one below the least so far. */
+        double earlierDue(double now, double least) {
+            if (kind != DELAYED || items.isEmpty() || firstWaiter(Role.TAKER) == null) {
+                return least;
+            }
+            double due = items.get(0).key;
+            return due > now && due < least ? due : least;
         }
 
         Worker firstWaiter(Role role) {

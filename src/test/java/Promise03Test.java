@@ -105,6 +105,16 @@ public final class Promise03Test {
             item(0, 5) = 3
             """);
 
+        Runs.check("delayed: a delay may be very small", """
+            make(0, 4, 0) = 1
+            give(0, 0, 1, 4.9E-324, 0.0) = 1
+            channel(0, 3) = 0
+            give(0, 0, 2, 0.0625, 0.0) = 1
+            tick(0.03125) = 0
+            take(1, 0, 0.0) = 1
+            take(1, 0, 0.0) = 2
+            """);
+
         Runs.check("delayed: the due time is that of the call, not of the way in", """
             make(0, 4, 0) = 1
             give(0, 0, 1, 0.0, 0.0) = 1
@@ -177,10 +187,14 @@ public final class Promise03Test {
             give(0, 8, 1, 0.0, 0.0) = throws.IllegalArgumentException
             give(0, 0, 1, -1000.5, 0.0) = throws.IllegalArgumentException
             give(0, 0, 1, 1000.5, 0.0) = throws.IllegalArgumentException
+            give(0, 0, 1, 1000.0000000000001, 0.0) = throws.IllegalArgumentException
+            give(0, 0, 1, -1000.0000000000001, 0.0) = throws.IllegalArgumentException
             give(0, 0, 1, NaN, 0.0) = throws.IllegalArgumentException
             give(0, 0, 1, Infinity, 0.0) = throws.IllegalArgumentException
             give(0, 0, 1, 0.0, -1.5) = throws.IllegalArgumentException
             give(0, 0, 1, 0.0, 1000.5) = throws.IllegalArgumentException
+            give(0, 0, 1, 0.0, 1000.0000000000001) = throws.IllegalArgumentException
+            give(0, 0, 1, 0.0, -1.0000000000000002) = throws.IllegalArgumentException
             give(0, 0, 1, 0.0, NaN) = throws.IllegalArgumentException
             give(0, 0, 1, 0.0, -Infinity) = throws.IllegalArgumentException
             give(1, 4, 1, 0.0, 1000.5) = throws.IllegalArgumentException

@@ -127,6 +127,8 @@ public final class Promise04Test {
             take(0, 8, 0.0) = throws.IllegalArgumentException
             take(0, 0, -1.25) = throws.IllegalArgumentException
             take(0, 0, 1000.25) = throws.IllegalArgumentException
+            take(0, 0, 1000.0000000000001) = throws.IllegalArgumentException
+            take(0, 0, -1.0000000000000002) = throws.IllegalArgumentException
             take(0, 0, NaN) = throws.IllegalArgumentException
             take(1, 3, 2000.0) = throws.IllegalArgumentException
             take(1, 3, 0.0) = throws.NoSuchElementException

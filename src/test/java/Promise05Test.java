@@ -71,6 +71,8 @@ public final class Promise05Test {
             swap(1, 8, 1, 0.0) = throws.IllegalArgumentException
             swap(1, 0, 1, -1.5) = throws.IllegalArgumentException
             swap(1, 0, 1, 1000.5) = throws.IllegalArgumentException
+            swap(1, 0, 1, 1000.0000000000001) = throws.IllegalArgumentException
+            swap(1, 0, 1, -1.0000000000000002) = throws.IllegalArgumentException
             swap(1, 0, 1, NaN) = throws.IllegalArgumentException
             swap(0, 3, 1, 0.0) = throws.NoSuchElementException
             swap(0, 1, 1, 0.0) = throws.IllegalStateException

@@ -117,6 +117,8 @@ public final class Promise06Test {
             arrive(1, 8, 0.0) = throws.IllegalArgumentException
             arrive(1, 0, -1.5) = throws.IllegalArgumentException
             arrive(1, 0, 1000.5) = throws.IllegalArgumentException
+            arrive(1, 0, 1000.0000000000001) = throws.IllegalArgumentException
+            arrive(1, 0, -1.0000000000000002) = throws.IllegalArgumentException
             arrive(1, 0, NaN) = throws.IllegalArgumentException
             arrive(0, 3, 0.0) = throws.NoSuchElementException
             arrive(0, 1, 0.0) = throws.IllegalStateException

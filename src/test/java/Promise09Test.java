@@ -160,6 +160,32 @@ public final class Promise09Test {
             channel(0, 2) = 0
             """);
 
+        Runs.check("six takers for six items that are due at once", """
+            make(0, 4, 0) = 1
+            give(0, 0, 10, 2.0, 0.0) = 1
+            give(0, 0, 11, 2.0, 0.0) = 1
+            give(0, 0, 12, 2.0, 0.0) = 1
+            give(0, 0, 13, 2.0, 0.0) = 1
+            give(0, 0, 14, 2.0, 0.0) = 1
+            give(0, 0, 15, 2.0, 0.0) = 1
+            take(5, 0, -1.0) = 0
+            take(4, 0, 2.0) = 0
+            take(3, 0, -1.0) = 0
+            take(2, 0, 2.0) = 0
+            take(1, 0, -1.0) = 0
+            take(0, 0, 2.0) = 0
+            tick(2.0) = 0
+            got(5) = 10
+            got(4) = 11
+            got(3) = 12
+            got(2) = 13
+            got(1) = 14
+            got(0) = 15
+            channel(0, 1) = 0
+            channel(0, 2) = 0
+            stay(0) = 2.0
+            """);
+
         Runs.check("an end that is the time itself: late at a tick of nothing", """
             make(0, 1, 0) = 1
             tick(1000.0) = 0
@@ -173,6 +199,8 @@ public final class Promise09Test {
         Runs.check("numbers out of range", """
             tick(-0.5) = throws.IllegalArgumentException
             tick(1000.5) = throws.IllegalArgumentException
+            tick(1000.0000000000001) = throws.IllegalArgumentException
+            tick(-4.9E-324) = throws.IllegalArgumentException
             tick(NaN) = throws.IllegalArgumentException
             tick(Infinity) = throws.IllegalArgumentException
             tick(-Infinity) = throws.IllegalArgumentException

@@ -63,6 +63,12 @@ final class Runs {
         return answer(hall, call.substring(0, open), args);
     }
 
+    /** An exception that the library threw, such as a list's for a wrong index, is a fault even where its name fits. */
+    private static boolean isThrownByHall(RuntimeException e) {
+        StackTraceElement[] trace = e.getStackTrace();
+        return trace.length > 0 && trace[0].getClassName().startsWith("ChannelHall");
+    }
+
     /** Every int is a double exactly, so one row of doubles carries the arguments of every call. */
     static String answer(ChannelHall hall, String name, double[] a) {
         try {
@@ -84,7 +90,7 @@ final class Runs {
                 default -> throw new AssertionError("no such call: " + name);
             };
         } catch (RuntimeException e) {
-            return "throws." + e.getClass().getSimpleName();
+            return "throws." + e.getClass().getSimpleName() + (isThrownByHall(e) ? "" : ".byItself");
         }
     }
 }

@@ -1,4 +1,4 @@
-/** All that can be asked of an object, as one text: 291 calls, so that a run of 200 fits before it. */
+/** All that can be asked of an object, as one text: 263 calls, so that a run of 200 fits before it. */
 final class Snapshot {
     private Snapshot() {
     }
