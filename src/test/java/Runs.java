@@ -1,36 +1,62 @@
+import java.util.ArrayList;
+import java.util.List;
+
 /**
- * Runs of calls written as text, a call a line with the answer that is due behind "=":
- * a number, or throws.X for an exception X. A line that begins with # is a remark.
+ * Runs of calls written as text, a call a line (or several with ";" between them) with the answer that is due
+ * behind "=": a number, or throws.X for an exception X. A line that begins with # is a remark. Of every call
+ * that is due to throw it is looked at too that it changed nothing.
  */
 final class Runs {
     /** What the document says of an object's life; a run beyond it would test nothing that is promised. */
     private static final int MOST_CALLS = 512;
 
+    private static int done = 0;
     private static int wrong = 0;
+
+    record Row(String call, String due) {
+        boolean isRefused() {
+            return due.startsWith("throws.");
+        }
+    }
 
     private Runs() {
     }
 
     static void check(String title, String text) {
+        List<Row> rows = rows(text);
         ChannelHall hall = new ChannelHall();
-        int calls = 0;
+        List<String> before = new ArrayList<>();
+        for (Row row : rows) {
+            String got = answer(hall, row.call);
+            if (!same(got, row.due)) {
+                fail(title + ": call " + (before.size() + 1) + ", " + row.call + " answered " + got
+                        + ", due is " + row.due);
+            }
+            if (row.isRefused()) {
+                Unchanged.check(title, before, row.call);
+            }
+            before.add(row.call);
+        }
+        if (rows.size() > MOST_CALLS) {
+            fail(title + ": " + rows.size() + " calls are more than an object is used for");
+        }
+        done++;
+    }
+
+    static List<Row> rows(String text) {
+        List<Row> rows = new ArrayList<>();
         for (String line : text.split("\n")) {
-            String row = line.strip();
-            if (row.isEmpty() || row.startsWith("#")) {
+            if (line.strip().startsWith("#")) {
                 continue;
             }
-            int equals = row.lastIndexOf('=');
-            String call = row.substring(0, equals).strip();
-            String due = row.substring(equals + 1).strip();
-            String got = answer(hall, call);
-            calls++;
-            if (!same(got, due)) {
-                fail(title + ": call " + calls + ", " + call + " answered " + got + ", due is " + due);
+            for (String part : line.split(";")) {
+                if (!part.isBlank()) {
+                    int equals = part.lastIndexOf('=');
+                    rows.add(new Row(part.substring(0, equals).strip(), part.substring(equals + 1).strip()));
+                }
             }
         }
-        if (calls > MOST_CALLS) {
-            fail(title + ": " + calls + " calls are more than an object is used for");
-        }
+        return rows;
     }
 
     static void fail(String what) {
@@ -42,6 +68,9 @@ final class Runs {
         if (wrong != 0) {
             System.out.println(wrong + " answers are not as due");
             System.exit(1);
+        }
+        if (done != 0) {
+            System.out.println(done + " runs as due");
         }
     }
 
@@ -70,7 +99,7 @@ final class Runs {
     }
 
     /** Every int is a double exactly, so one row of doubles carries the arguments of every call. */
-    static String answer(ChannelHall hall, String name, double[] a) {
+    static String answer(ChannelHall hall, String name, double... a) {
         try {
             return switch (name) {
                 case "make" -> "" + hall.make((int) a[0], (int) a[1], (int) a[2]);

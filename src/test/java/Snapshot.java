@@ -1,23 +1,57 @@
-/** All that can be asked of an object, as one text: 263 calls, so that a run of 200 fits before it. */
+/** What an object answers to many calls, as one text; none of them makes more than 271 calls. */
 final class Snapshot {
     private Snapshot() {
     }
 
+    /** All that can be asked without a change. */
     static String of(ChannelHall hall) {
         StringBuilder all = new StringBuilder("time " + hall.time());
         for (int t = 0; t < 6; t++) {
-            all.append("\nthread ").append(t).append(": got ").append(Runs.answer(hall, "got(" + t + ")"));
+            all.append("\nthread ").append(t).append(": got ").append(Runs.answer(hall, "got", t));
             for (int what = 0; what < 4; what++) {
                 all.append(' ').append(hall.thread(t, what));
             }
         }
         for (int c = 0; c < 8; c++) {
-            all.append("\nchannel ").append(c).append(": stay ").append(Runs.answer(hall, "stay(" + c + ")"));
-            for (int what = 0; what < 11; what++) {
-                all.append(' ').append(Runs.answer(hall, "channel(" + c + ", " + what + ")"));
+            all.append("\nchannel ").append(c).append(": stay ").append(Runs.answer(hall, "stay", c));
+            if (!Runs.answer(hall, "channel", c, 0).startsWith("throws.")) {
+                appendChannel(all, hall, c);
             }
-            for (int i = 0; i < 17; i++) {
-                all.append(' ').append(Runs.answer(hall, "item(" + c + ", " + i + ")"));
+        }
+        return all.toString();
+    }
+
+    private static void appendChannel(StringBuilder all, ChannelHall hall, int c) {
+        for (int what = 0; what < 11; what++) {
+            all.append(' ').append(Runs.answer(hall, "channel", c, what));
+        }
+        String item = "items";
+        for (int i = 0; i < 17 && !item.startsWith("throws."); i++) {
+            all.append(' ').append(item);
+            item = Runs.answer(hall, "item", c, i);
+        }
+    }
+
+    /** What every thread can take or swap at every channel: this shows what the waiters hold. */
+    static String ofTakes(ChannelHall hall) {
+        StringBuilder all = new StringBuilder("\ntakes");
+        for (int c = 0; c < 8; c++) {
+            for (int t = 0; t < 6; t++) {
+                all.append(' ').append(Runs.answer(hall, "take", t, c, 0.0));
+                all.append(' ').append(Runs.answer(hall, "swap", t, c, 7, 0.0));
+                all.append(' ').append(Runs.answer(hall, "got", t));
+            }
+        }
+        return all.toString();
+    }
+
+    /** What becomes of every thread as time goes on: this shows the ends of waits and the due times. */
+    static String ofTicks(ChannelHall hall) {
+        StringBuilder all = new StringBuilder("\nticks");
+        for (int i = 0; i < 10; i++) {
+            all.append(' ').append(hall.tick(i < 9 ? i * 0.25 : 1000.0));
+            for (int t = 0; t < 6; t++) {
+                all.append(' ').append(hall.thread(t, 1)).append(' ').append(Runs.answer(hall, "got", t));
             }
         }
         return all.toString();

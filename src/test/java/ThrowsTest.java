@@ -1,3 +1,5 @@
+import java.util.List;
+
 /** A call that throws changes nothing: neither what can be asked at once, nor what comes of it later. */
 public final class ThrowsTest {
     private static final String[] BEFORE = {
@@ -22,37 +24,21 @@ public final class ThrowsTest {
         "got(6)", "got(1)", "thread(6, 0)", "thread(0, 4)", "channel(8, 0)", "channel(0, 11)", "channel(7, 0)",
         "item(8, 0)", "item(7, 0)", "item(0, 1)", "item(0, -1)", "stay(8)", "stay(7)", "stay(0)",
     };
-    private static final String[] AFTER = {
-        "take(0, 0, 0.0)", "take(0, 0, 0.0)", "give(5, 1, 6, 0.0, 0.0)", "arrive(0, 4, 1.0)", "tick(10.0)",
-    };
 
     public static void main(String[] args) {
-        String early = Snapshot.of(hall(null, new String[0]));
-        String late = Snapshot.of(hall(null, AFTER));
-        for (String wrong : WRONG) {
-            if (!Snapshot.of(hall(wrong, new String[0])).equals(early)) {
-                Runs.fail(wrong + " changed something");
-            }
-            if (!Snapshot.of(hall(wrong, AFTER)).equals(late)) {
-                Runs.fail(wrong + " changed something that shows later");
-            }
-        }
-        Runs.end();
-    }
-
-    private static ChannelHall hall(String wrong, String[] after) {
         ChannelHall hall = new ChannelHall();
         for (String call : BEFORE) {
             if (Runs.answer(hall, call).startsWith("throws.")) {
                 Runs.fail(call + " throws before the wrong call");
             }
         }
-        if (wrong != null && !Runs.answer(hall, wrong).startsWith("throws.")) {
-            Runs.fail(wrong + " does not throw");
+        for (String wrong : WRONG) {
+            // None of them changes anything, so all can be called on one object, one behind the other.
+            if (!Runs.answer(hall, wrong).startsWith("throws.")) {
+                Runs.fail(wrong + " does not throw");
+            }
+            Unchanged.check("a call that throws", List.of(BEFORE), wrong);
         }
-        for (String call : after) {
-            Runs.answer(hall, call);
-        }
-        return hall;
+        Runs.end();
     }
 }
