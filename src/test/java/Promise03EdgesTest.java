@@ -298,6 +298,16 @@ public final class Promise03EdgesTest {
             channel(0, 3) = 1
             take(1, 0, 0.0) = 1; got(1) = 7
             """);
+        Runs.check("a waiting GIVER's ITEM that was DUE before TIME and before others comes before them", """
+            make(0, 4, 0) = 1
+            give(0, 0, 1, 0.0, 0.0) = 1
+            give(0, 0, 2, 1.5, 0.0) = 1; give(0, 0, 3, 1.5, 0.0) = 1; give(0, 0, 4, 1.0, 0.0) = 1
+            give(0, 0, 5, 0.5, 0.0) = 1; give(0, 0, 6, 1.5, 0.0) = 1
+            give(0, 0, 7, 1.0, -1.0) = 0
+            tick(2.0) = 0
+            take(1, 0, 0.0) = 1; got(1) = 1
+            item(0, 0) = 5; item(0, 1) = 4; item(0, 2) = 7; item(0, 3) = 2; item(0, 4) = 3; item(0, 5) = 6
+            """);
         Runs.check("a waiting GIVER's delay below 0.0 is 0.0 too: DUE when the call is made", """
             make(0, 4, 0) = 1
             give(0, 0, 1, 4.0, 0.0) = 1; give(0, 0, 2, 4.0, 0.0) = 1; give(0, 0, 3, 4.0, 0.0) = 1

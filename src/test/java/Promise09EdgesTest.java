@@ -319,9 +319,17 @@ public final class Promise09EdgesTest {
         Runs.check("Then TIME is G, TIME plus that at the start, not summed up over the moments", """
             make(0, 2, 0) = 1
             tick(0.1) = 0
-            take(0, 0, 0.2) = 0; take(1, 0, 0.3) = 0
-            tick(0.7) = 2
+            take(0, 0, 0.1) = 0
+            tick(0.7) = 1
             time() = 0.7999999999999999
+            """);
+        Runs.check("Then TIME is G: not summed up over a DUE time and an END either", """
+            make(0, 4, 0) = 1
+            tick(0.1) = 0
+            give(0, 0, 1, 0.1, 0.0) = 1; take(1, 0, -1.0) = 0; take(2, 0, 0.2) = 0
+            tick(2.3) = 1
+            got(1) = 1
+            time() = 2.4
             """);
         Runs.check("Then TIME is G: also if nothing was to be done", """
             tick(0.0) = 0; time() = 0.0

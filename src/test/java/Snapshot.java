@@ -45,15 +45,21 @@ final class Snapshot {
         return all.toString();
     }
 
-    /** What becomes of every thread as time goes on: this shows the ends of waits and the due times. */
+    /** What becomes of every thread as time goes on, to every half and to just before it: this shows the ends of waits. */
     static String ofTicks(ChannelHall hall) {
         StringBuilder all = new StringBuilder("\nticks");
-        for (int i = 0; i < 10; i++) {
-            all.append(' ').append(hall.tick(i < 9 ? i * 0.25 : 1000.0));
-            for (int t = 0; t < 6; t++) {
-                all.append(' ').append(hall.thread(t, 1)).append(' ').append(Runs.answer(hall, "got", t));
-            }
+        for (int i = 0; i < 8; i++) {
+            appendTick(all, hall, 0.4375);
+            appendTick(all, hall, 0.0625);
         }
+        appendTick(all, hall, 1000.0);
         return all.toString();
+    }
+
+    private static void appendTick(StringBuilder all, ChannelHall hall, double by) {
+        all.append(' ').append(hall.tick(by));
+        for (int t = 0; t < 6; t++) {
+            all.append(' ').append(hall.thread(t, 1)).append(' ').append(Runs.answer(hall, "got", t));
+        }
     }
 }
