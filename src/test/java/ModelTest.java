@@ -1,10 +1,12 @@
 import java.util.Arrays;
 import java.util.Random;
 
-/** Random runs of calls, each answer held against the model's, and the whole state at the end. */
+/** Random runs of calls, each answer held against the model's; half of them for all the calls of an object's life. */
 public final class ModelTest {
     private static final int RUNS = 4000;
-    private static final int CALLS = 200;
+    private static final int LIFE = 512;
+    /** So many calls ask for the whole state; the runs that end with it are shorter by these. */
+    private static final int CALLS_FOR_ALL = 263;
     private static final String[] ACTS = {"give", "take", "swap", "arrive"};
     private static final String[] ASKS = {"got", "thread", "channel", "item", "stay", "time"};
     private static final double[] LIMITS = {0.0, -1.0, -0.5, 0.5, 1.0, 1.5, 2.0, 3.0, 0.1, 0.3, 1000.0, -0.0};
@@ -35,12 +37,14 @@ public final class ModelTest {
                 return false;
             }
         }
-        for (int i = 0; i < CALLS; i++) {
+        boolean asksForAll = seed % 2 == 0;
+        int calls = LIFE - channels - (asksForAll ? CALLS_FOR_ALL : 0);
+        for (int i = 0; i < calls; i++) {
             if (!oneCall(seed, random, hall, model, kinds, channels)) {
                 return false;
             }
         }
-        return agreeOnAll(seed, hall, model);
+        return !asksForAll || agreeOnAll(seed, hall, model);
     }
 
     private static boolean oneCall(int seed, Random random, ChannelHall hall, Model model, int[] kinds, int channels) {
